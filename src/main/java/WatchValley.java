@@ -503,7 +503,6 @@ public final class WatchValley {
             this.kind = kind;
             this.size = size;
             this.raw = raw;
-            this.place = raw;
         }
 
         /** Tells the PIECE alone; the row still has it until its LOT unlinks it. */
@@ -800,7 +799,6 @@ public final class WatchValley {
         /** Finds the SET; how many WHEELS it has. */
         int chooseWheels() {
             bestCount = NONE;
-            bestSet = 0;
             tryWheel(0, 0, 0);
             return bestCount;
         }
@@ -917,7 +915,6 @@ public final class WatchValley {
         }
 
         void settle(int set) {
-            given = 0;
             for (int wheel = 0; wheel < MAX_IN_MAKING; wheel++) {
                 if ((set >> wheel & 1) == 1) {
                     settled[wheel] = firstPlaceFor(wheel, set);

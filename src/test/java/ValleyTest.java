@@ -13,6 +13,7 @@ public final class ValleyTest {
         promise4Split();
         promise4SplitLimit();
         promise5Join();
+        promise5JoinRowsOfOne();
         promise5JoinRefused();
         promise6Send();
         promise6SendLimit();
@@ -20,9 +21,12 @@ public final class ValleyTest {
         promise7DayNoWay();
         promise7DayQueue();
         promise7DayBehind();
+        promise7DayQueueAgain();
         promise7DayBreaks();
         promise7DayAllBreak();
         promise7DayEmptyLots();
+        promise7DayAllLotsAtOnce();
+        promise7DayRowsBehindBroken();
         promise7DaySecondVisit();
         promise7DayHomesInTurn();
         promise7DayLimit();
@@ -214,6 +218,21 @@ public final class ValleyTest {
         CHECK.same("last of 300", big.at(0, 299), 299);
     }
 
+    private static void promise5JoinRowsOfOne() {
+        WatchValley v = new WatchValley();
+        v.raw(1, 1, 0, 0);
+        v.raw(1, 1, 0, 0);
+        v.raw(1, 1, 0, 0);
+        CHECK.same("one behind one", v.join(0, 1), 2);
+        CHECK.same("one to the emptied", v.join(1, 2), 1);
+        CHECK.row(v, 1, 2);
+        CHECK.same("two behind one", v.join(1, 0), 3);
+        CHECK.row(v, 1, 2, 0, 1);
+        CHECK.same("one off", v.split(1, 1), 3);
+        CHECK.same("and behind again", v.join(1, 3), 3);
+        CHECK.row(v, 1, 0, 1, 2);
+    }
+
     private static void promise5JoinRefused() {
         WatchValley v = new WatchValley();
         v.home(1, 0, 0, 1);
@@ -376,6 +395,33 @@ public final class ValleyTest {
         }
     }
 
+    /** A LOT that had others behind it comes again, now as the last, or to another HOME. */
+    private static void promise7DayQueueAgain() {
+        WatchValley v = new WatchValley();
+        v.home(1, 1, 0, 0);
+        v.home(1, 1, 0, 0);
+        v.raw(0, 1, 0, 0);
+        v.raw(0, 5, 0, 0);
+        v.raw(0, 1, 0, 0);
+        v.send(0, 0);
+        v.send(1, 0);
+        v.send(2, 0);
+        days(v, 2);
+        v.send(0, 1);
+        v.day(false);
+        CHECK.same("LOTS at HOME 0", v.of(0, 6), 2);
+        CHECK.same("LOTS at HOME 1", v.of(1, 6), 0);
+        CHECK.same("at HOME 1", v.of(1, 4), 1);
+        v.day(false);
+        CHECK.same("HOME 1 has no more", v.of(1, 4), 1);
+        v.send(0, 0);
+        days(v, 4);
+        CHECK.same("all worked at HOME 0", v.of(0, 4), 8);
+        CHECK.same("none WAITS", v.of(0, 6), 0);
+        days(v, 1);
+        CHECK.same("all are back", v.count(7), 0);
+    }
+
     /** How often the PIECES of each LOT were worked, one sign a LOT of three. */
     private static String worked(WatchValley v) {
         StringBuilder signs = new StringBuilder();
@@ -469,6 +515,42 @@ public final class ValleyTest {
         CHECK.same("an empty one behind one at work WAITS", w.lot(1, 2), 2);
         w.day(false);
         CHECK.same("until it is its turn", w.lot(1, 2), 3);
+    }
+
+    /** As many as can be on one DAY at one HOME: 60 LOTS go, 20 PIECES are worked. */
+    private static void promise7DayAllLotsAtOnce() {
+        WatchValley v = new WatchValley();
+        v.home(20, 0, 0, 0);
+        v.raw(0, 20, 0, 0);
+        while (v.count(2) < 60) {
+            v.split(0, v.lot(0, 1) > 1 && v.count(2) > 40 ? 1 : 0);
+        }
+        for (int lot = 59; lot >= 0; lot--) {
+            v.send(lot, 0);
+        }
+        CHECK.same("PIECES worked", v.day(false), 20);
+        CHECK.same("none WAITS", v.of(0, 6), 0);
+        v.day(false);
+        CHECK.same("all are back", v.count(7), 0);
+    }
+
+    /** The last of a row breaks; the row must still take others behind it. */
+    private static void promise7DayRowsBehindBroken() {
+        WatchValley v = new WatchValley();
+        v.home(20, 0, 3, 0);
+        v.raw(0, 3, 0, 0);
+        v.raw(0, 2, 0, 0);
+        v.send(0, 0);
+        days(v, 2);
+        CHECK.row(v, 0, 0, 1);
+        CHECK.same("join", v.join(0, 1), 4);
+        CHECK.row(v, 0, 0, 1, 3, 4);
+        v.send(0, 0);
+        days(v, 2);
+        CHECK.row(v, 0, 0, 1, 4);
+        CHECK.same("split", v.split(0, 2), 2);
+        CHECK.same("join", v.join(0, 2), 3);
+        CHECK.row(v, 0, 4, 0, 1);
     }
 
     private static void promise7DaySecondVisit() {

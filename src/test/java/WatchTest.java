@@ -296,10 +296,13 @@ public final class WatchTest {
         }
         CHECK.same("PIECE 3 in WATCH", v.piece(3, 5), 1);
         CHECK.same("PIECE 0 in its LOT", v.piece(0, 5), plates);
+        int moreWheels = lotOf(v, 1, 70, 71);
+        CHECK.same("WHEELS behind a row whose last is gone", v.join(wheels, moreWheels), 3);
+        CHECK.row(v, wheels, 6, 10, 11);
         int more = lotOf(v, 2, 9, 9);
         CHECK.same("STONES behind an emptied row", v.join(stones, more), 2);
         CHECK.same("make more", v.make(plates, wheels, stones), 1);
-        watchIs(v, 2, 0, 6, 10);
+        watchIs(v, 2, 0, 6, 12);
         CHECK.same("numbered on", v.piece(6, 5), 2);
         CHECK.same("nothing left to make", v.make(plates, wheels, stones), 0);
         v.send(plates, 0);
