@@ -15,6 +15,7 @@ public final class WatchTest {
         promise17And18TenPieces();
         promise18MakeSet();
         promise18MakeMates();
+        promise18MakeLongChain();
         promise18MakeRest();
         promise18MakeHundred();
         promise19Watch();
@@ -278,6 +279,21 @@ public final class WatchTest {
         CHECK.same("two", x.make(plates, wheels, stones), 2);
         watchIs(x, 0, 0, 2, 5);
         watchIs(x, 1, 1, 4, 6);
+    }
+
+    /** The last WHEEL can have its mates only if all others leave those that they have first. */
+    private static void promise18MakeLongChain() {
+        WatchValley v = new WatchValley();
+        int plates = lotOf(v, 0, 1, 2, 3, 4, 5, 6, 7, 8, 9, 0);
+        int wheels = lotOf(v, 1, 0, 1, 2, 3, 4, 5, 6, 7, 8, 9);
+        int stones = lotOf(v, 2, 1, 2, 3, 4, 5, 6, 7, 8, 9, 0);
+        v.fit(0, 0, 1);
+        v.fit(1, -1, 0);
+        CHECK.same("most", v.most(plates, wheels, stones), 10);
+        CHECK.same("make", v.make(plates, wheels, stones), 10);
+        for (int w = 0; w < 10; w++) {
+            watchIs(v, w, (w + 9) % 10, 10 + w, 20 + (w + 9) % 10);
+        }
     }
 
     private static void promise18MakeRest() {
