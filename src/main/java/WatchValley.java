@@ -338,8 +338,8 @@ public final class WatchValley {
             return NONE;
         }
         switch (what) {
-            case 0: return allOf(home);
-            case 1: return badOf(home);
+            case 0: return watchesOf(home, false);
+            case 1: return watchesOf(home, true);
             default: return NONE;
         }
     }
@@ -352,8 +352,8 @@ public final class WatchValley {
         int worstBad = 0;
         int worstAll = 1;
         for (int i = 0; i < homeCount; i++) {
-            int bad = badOf(i);
-            int all = allOf(i);
+            int bad = watchesOf(i, true);
+            int all = watchesOf(i, false);
             // bad / all > worstBad / worstAll, without dividing
             if (bad >= m && bad * worstAll > worstBad * all) {
                 worst = i;
@@ -461,22 +461,12 @@ public final class WatchValley {
         return found;
     }
 
-    private int allOf(int home) {
+    /** ALL of a HOME; of these the ones that are BACK alone: BAD. */
+    private int watchesOf(int home, boolean backAlone) {
         int found = 0;
         for (int i = 0; i < watchCount; i++) {
             Watch watch = watchNumbered(i);
-            if (watch != null && watch.wasWorkedBy(home)) {
-                found++;
-            }
-        }
-        return found;
-    }
-
-    private int badOf(int home) {
-        int found = 0;
-        for (int i = 0; i < watchCount; i++) {
-            Watch watch = watchNumbered(i);
-            if (watch != null && watch.isBack && watch.wasWorkedBy(home)) {
+            if (watch != null && watch.wasWorkedBy(home) && (watch.isBack || !backAlone)) {
                 found++;
             }
         }

@@ -34,6 +34,10 @@ public final class FaceTest {
             }
         }
         check.same("the methods", visible.toString(), new TreeSet<>(Arrays.asList(FACE)).toString());
+        for (Method method : WatchValley.class.getDeclaredMethods()) {
+            boolean isPrivate = Modifier.isPrivate(method.getModifiers());
+            check.same(method + " bears a public name", isPrivate && names.contains(method.getName()), false);
+        }
         Constructor<?>[] constructors = WatchValley.class.getDeclaredConstructors();
         check.same("how many constructors", constructors.length, 1);
         check.same("the constructor's arguments", constructors[0].getParameterCount(), 0);
