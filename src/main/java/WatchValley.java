@@ -513,6 +513,7 @@ public final class WatchValley {
         int toGo;
         /** The last PIECE of the row that was worked on this visit and is still WHOLE. */
         Piece lastWorked;
+        /** How many PIECES were worked on this visit, those that broke on it too. */
         int worked;
         Lot nextWaiting;
 
@@ -675,13 +676,13 @@ public final class WatchValley {
             piece.size += off;
             piece.homes |= 1 << number;
             worked++;
+            lot.worked++;
             if (breaks > 0 && worked % breaks == 0) {
                 broke++;
                 piece.leaveRow(BROKEN, number);
                 lot.unlink(lot.lastWorked, piece);
             } else {
                 lot.lastWorked = piece;
-                lot.worked++;
             }
         }
 

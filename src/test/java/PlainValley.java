@@ -211,7 +211,8 @@ final class PlainValley {
         boolean waits = l.stand.equals("waits");
         boolean goes = l.stand.equals("out") || l.stand.equals("back");
         int stand = List.of("house", "out", "waits", "back").indexOf(l.stand);
-        int done = (int) l.row.stream().filter(l.workedNow::contains).count();
+        // one that broke has left the row, yet was worked there
+        int done = l.workedNow.size();
         int[] answers = {l.kind, l.row.size(), stand, l.home, goes ? l.toGo : 0, waits ? done : 0};
         return answers[what];
     }

@@ -32,6 +32,7 @@ public final class ValleyTest {
         promise7DayLimit();
         promise8Count();
         promise9Lot();
+        promise9LotWorkedAndBroken();
         promise10At();
         promise11Piece();
         promise12Of();
@@ -448,7 +449,7 @@ public final class ValleyTest {
         v.send(0, 0);
         CHECK.same("worked", v.day(false), 3);
         CHECK.row(v, 0, 0, 2, 3, 4, 5, 6);
-        CHECK.same("PIECES of it worked", v.lot(0, 5), 2);
+        CHECK.same("PIECES of it worked, the broken one too", v.lot(0, 5), 3);
         CHECK.same("BROKEN", v.piece(1, 4), 1);
         CHECK.same("where", v.piece(1, 5), 0);
         CHECK.same("SIZE of the BROKEN", v.piece(1, 1), 11);
@@ -477,9 +478,11 @@ public final class ValleyTest {
         CHECK.same("worked", v.day(false), 2);
         CHECK.row(v, 0, 2);
         CHECK.same("still WAITS", v.lot(0, 2), 2);
+        CHECK.same("all worked are broken, and count", v.lot(0, 5), 2);
         CHECK.same("the last one", v.day(false), 1);
         CHECK.row(v, 0);
         CHECK.same("goes home empty", v.lot(0, 2), 3);
+        CHECK.same("none worked where it is", v.lot(0, 5), 0);
         v.day(false);
         v.raw(0, 2, 0, 0);
         CHECK.same("and takes others", v.join(0, 1), 2);
@@ -647,6 +650,26 @@ public final class ValleyTest {
                 CHECK.same("lot " + bad, v.lot(bad, what), NONE);
             }
         }
+    }
+
+    private static void promise9LotWorkedAndBroken() {
+        WatchValley v = new WatchValley();
+        v.home(1, 3, 2, 0);
+        v.raw(1, 5, 10, -4);
+        v.send(0, 0);
+        int[][] due = {{1, 5}, {2, 4}, {3, 4}, {4, 3}};
+        for (int[] workedAndLeft : due) {
+            v.day(false);
+            CHECK.same("worked so far", v.lot(0, 5), workedAndLeft[0]);
+            CHECK.same("left in the row", v.lot(0, 1), workedAndLeft[1]);
+        }
+        v.day(false);
+        CHECK.same("going home", v.lot(0, 5), 0);
+        v.day(false);
+        v.send(0, 0);
+        v.day(false);
+        CHECK.same("a second visit counts anew", v.lot(0, 5), 1);
+        CHECK.same("also when the first one breaks", v.lot(0, 1), 2);
     }
 
     private static void promise10At() {
