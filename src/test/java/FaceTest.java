@@ -3,6 +3,7 @@ import java.lang.reflect.Field;
 import java.lang.reflect.Method;
 import java.lang.reflect.Modifier;
 import java.util.Arrays;
+import java.util.Set;
 import java.util.TreeSet;
 
 /** The public face, as the document writes it, and no other visible member (LANGUAGE.md, rule 1). */
@@ -16,6 +17,8 @@ public final class FaceTest {
         "boolean send(int, int)", "int split(int, int)", "int suspect(int)",
         "int wage(int, int, int)", "int watch(int, int)",
     };
+
+    private static final Set<String> THROWING = Set.of("piece", "due");
 
     private static String signature(Method method) {
         String types = Arrays.toString(method.getParameterTypes()).replace("[", "(").replace("]", ")");
@@ -31,6 +34,8 @@ public final class FaceTest {
                 visible.add(signature(method));
                 names.add(method.getName());
                 check.same(method + " is public alone", method.getModifiers(), Modifier.PUBLIC);
+                check.same(method + " throws", Arrays.toString(method.getExceptionTypes()),
+                        THROWING.contains(method.getName()) ? "[class java.util.NoSuchElementException]" : "[]");
             }
         }
         check.same("the methods", visible.toString(), new TreeSet<>(Arrays.asList(FACE)).toString());
